@@ -79,6 +79,7 @@ public final class DirectorySession {
     private int latestFound = 0;
     private final Request request = new Request();
     private final Name name = new Name();
+    private final Name newPart = new Name();
     private final Tree tree = new Tree();
     private final Editor editor = new Editor();
     private final Answer answer = new Answer();
@@ -204,7 +205,7 @@ public final class DirectorySession {
     }
 
     private int perform() {
-        boolean named = name.read(request.bytes, request.starts[0], request.ends[0]);
+        boolean named = name.read(request, 0);
         Entry entry = tree.find(name, 0);
         if (request.kind == BIND) {
             return bind(entry);
@@ -219,7 +220,8 @@ public final class DirectorySession {
             return editor.add(request, name, tree);
         }
         if (request.kind == RENAME) {
-            return editor.rename(request, entry, tree);
+            boolean isPart = newPart.read(request, 1) && newPart.parts == 1;
+            return isPart ? editor.rename(entry, newPart, request.flag, tree) : NO_NAME;
         }
         if (entry == null) {
             return NO_SUCH_ENTRY;
@@ -340,12 +342,17 @@ public final class DirectorySession {
 
         /** The number that a value of the syntax of i writes. */
         static int numberOf(long packed) {
-            boolean negative = byteAt(packed, 0) == '-';
+            int sign = 1;
             int number = 0;
-            for (int j = negative ? 1 : 0; j < sizeOf(packed); j++) {
-                number = 10 * number + byteAt(packed, j) - '0';
+            for (int shift = 8 * (MOST_BYTES - 1); shift >= 0; shift -= 8) {
+                int c = (int) (packed >>> shift) & 0xFF;
+                if (c == '-') {
+                    sign = -1;
+                } else if (c != 0) { // no byte stands here when the value is shorter
+                    number = 10 * number + c - '0';
+                }
             }
-            return negative ? -number : number;
+            return sign * number;
         }
     }
 
@@ -473,8 +480,11 @@ public final class DirectorySession {
         }
 
         void copy(ValueRow other) {
-            clear();
-            addAll(other);
+            size = Math.min(other.size, given.length);
+            for (int k = 0; k < size; k++) {
+                given[k] = other.given[k];
+                plains[k] = other.plains[k];
+            }
         }
 
         void remove(long plain) {
@@ -620,15 +630,16 @@ public final class DirectorySession {
         final long[] plains = new long[MOST_PARTS];
         int parts = 0;
 
-        /** Whether the bytes are a name; when they are none, it has no parts. */
-        boolean read(int[] bytes, int start, int end) {
+        /** Whether the request's text is a name; when it is none, there are no parts. */
+        boolean read(Request request, int text) {
             parts = 0;
-            if (start == end) {
+            int at = request.starts[text];
+            int end = request.ends[text];
+            if (at == end) {
                 return true;
             }
-            int at = start;
             for (int part = 0; part < MOST_PARTS && at >= 0; part++) {
-                at = readPart(bytes, at, end, part);
+                at = readPart(request.bytes, at, end, part);
                 if (at == end) {
                     parts = part + 1;
                     return true;
@@ -1102,7 +1113,6 @@ public final class DirectorySession {
         /** It takes all that a request adds before it is counted whether that is too many. */
         private final Entry candidate = new Entry(MOST_OF_ANY_TYPE + Request.MOST_VALUES);
         private final ValueRow asked = new ValueRow(Request.MOST_VALUES);
-        private final Name newPart = new Name();
 
         int add(Request request, Name name, Tree tree) {
             candidate.clear();
@@ -1209,11 +1219,7 @@ public final class DirectorySession {
             return DONE;
         }
 
-        int rename(Request request, Entry entry, Tree tree) {
-            boolean isName = newPart.read(request.bytes, request.starts[1], request.ends[1]);
-            if (!isName || newPart.parts != 1) {
-                return NO_NAME;
-            }
+        int rename(Entry entry, Name newPart, boolean oldGoes, Tree tree) {
             if (entry == null) {
                 return NO_SUCH_ENTRY;
             }
@@ -1224,7 +1230,7 @@ public final class DirectorySession {
                 return SUCH_ENTRY_EXISTS;
             }
             candidate.copy(entry);
-            if (request.flag && !entry.isNamed(type, plain)) {
+            if (oldGoes && !entry.isNamed(type, plain)) {
                 candidate.attributes[entry.nameType].remove(entry.namePlain);
             }
             ValueRow row = candidate.attributes[type];
