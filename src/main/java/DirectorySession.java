@@ -348,7 +348,8 @@ public final class DirectorySession {
                 int c = (int) (packed >>> shift) & 0xFF;
                 if (c == '-') {
                     sign = -1;
-                } else if (c != 0) { // no byte stands here when the value is shorter
+                } else if (c != 0) {
+                    // Where a shorter value has no byte, there is a 0.
                     number = 10 * number + c - '0';
                 }
             }

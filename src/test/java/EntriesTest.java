@@ -89,6 +89,13 @@ public final class EntriesTest {
             CHECK.same("value j " + j, x.value(0, 1, 0, j), -1);
         }
         CHECK.same("value", x.value(0, 1, 0, 2), (int) 'c');
+        add(x, "n=d", G, n("d"), d("1", "2", "3"));
+        CHECK.same("the third value", x.value(1, 2, 2, 0), (int) '3');
+        CHECK.same("no fourth value", x.value(1, 2, 3, 0), -1);
+        Wire.ask(x, Wire.modify("n=d", 1, "d", "2", "3"));
+        CHECK.same("one is left", x.values(1, 2), 1);
+        CHECK.same("no second value any more", x.value(1, 2, 1, 0), -1);
+        CHECK.same("nor a third one", x.value(1, 2, 2, 0), -1);
     }
 
     private static void names() {
@@ -244,6 +251,8 @@ public final class EntriesTest {
         CHECK.same("one comes", add(x, "n=x", G, n("x")), 0);
         CHECK.same("it is the last", Wire.valueTexts(x, 11, 1), "x");
         CHECK.same("the others moved up", Wire.valueTexts(x, 5, 1), "6");
+        CHECK.same("and are all there", Wire.valueTexts(x, 10, 1), "11");
+        CHECK.same("the freed place counts", add(x, "n=y", G, n("y")), 53);
     }
 
     private static void delete() {

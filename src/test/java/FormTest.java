@@ -238,6 +238,11 @@ public final class FormTest {
         for (int length : new int[] {0x80, 0x82, 0x84, 0xFF}) {
             bad("inner length " + length, Wire.tlv(0x6C, Wire.bytes(4, length), NAME, Wire.flag(0)));
         }
+        byte[] long128 = Wire.join(MORE, Wire.longTlv(0x30, Wire.attribute("d", THIRTY, THIRTY),
+                Wire.attribute("d", THIRTY, "x".repeat(11))));
+        CHECK.same("128 bytes", long128.length, 128);
+        good("length 128 in two bytes", Wire.join(Wire.bytes(0x68, 0x81, 128), long128));
+        bad("length 128 in one byte", Wire.join(Wire.bytes(0x68, 0x80), long128));
         bad("a length that is cut off", Wire.tlv(0x63, NAME, Wire.choice(0), Wire.integer(0),
                 Wire.bytes(0xA0, 0x81)));
         bad("a text that goes beyond", Wire.tlv(0x6C, NAME, Wire.bytes(4, 9, 'n'), Wire.flag(0)));

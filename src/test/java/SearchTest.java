@@ -1,3 +1,7 @@
+import java.util.List;
+import java.util.Set;
+import java.util.TreeSet;
+
 /** Promises 7 to 10: SEARCH, its filters with three truth values, and what is written out. */
 public final class SearchTest {
     private static final Check CHECK = new Check();
@@ -10,6 +14,7 @@ public final class SearchTest {
         limits();
         codes();
         writtenOut();
+        lengthsAround128();
         longAnswers();
         leaves();
         numbers();
@@ -104,6 +109,37 @@ public final class SearchTest {
                 Wire.found(1, "d=t wo,n=a", Wire.attribute("o", "g"), Wire.attribute("n", "b"),
                         Wire.attribute("d", "One", "t  Wo")),
                 Wire.result(1, 0x65, 0))));
+    }
+
+    private static void lengthsAround128() {
+        Set<Integer> contents = new TreeSet<>();
+        for (int size = 0; size < 24; size++) {
+            String name = "\\,".repeat(1 + size % 6);
+            String bare = ",".repeat(1 + size % 6);
+            String[] d = {"111111", "222222", "3333".repeat(2).substring(0, 3 + size / 6)};
+            DirectorySession x = new DirectorySession();
+            Wire.ask(x, Wire.add("n=yy", Wire.attribute("o", "g"), Wire.attribute("n", "yy")));
+            Wire.ask(x, Wire.add("n=z,n=yy", Wire.attribute("o", "h"), Wire.attribute("n", "z"),
+                    Wire.attribute("i", "1"), Wire.attribute("s", "123456")));
+            Wire.ask(x, Wire.add("n=a,n=z,n=yy", Wire.attribute("o", "h", "x"),
+                    Wire.attribute("n", "a"), Wire.attribute("i", "-9999"),
+                    Wire.attribute("s", "123456"), Wire.attribute("d", d)));
+            Wire.ask(x, Wire.rename("n=a,n=z,n=yy", "n=" + name, 1));
+            Wire.ask(x, Wire.rename("n=z,n=yy", "n=\\=\\=\\=\\=\\=\\=", 1));
+            Wire.ask(x, Wire.search("", 2, 0, Wire.present("d")));
+            byte[] due = Wire.found(1, "n=" + name + ",n=\\=\\=\\=\\=\\=\\=,n=yy",
+                    Wire.attribute("o", "h", "x"), Wire.attribute("n", bare),
+                    Wire.attribute("d", d), Wire.attribute("i", "-9999"),
+                    Wire.attribute("s", "123456"));
+            int header = due[1] == (byte) 0x81 ? 3 : 2;
+            contents.add(due.length - header);
+            int inner = header + 3;
+            contents.add(due.length - inner - (due[inner + 1] == (byte) 0x81 ? 3 : 2));
+            CHECK.same("content of " + (due.length - header), Wire.outputHex(x),
+                    Wire.hex(Wire.join(due, Wire.result(1, 0x65, 0))));
+        }
+        CHECK.holds("lengths around 128 " + contents,
+                contents.containsAll(List.of(126, 127, 128, 129)));
     }
 
     /** Twelve entries of the longest kind, so that every length has its second byte. */
