@@ -4,12 +4,30 @@ import java.util.Objects;
 final class Check {
     private int checks = 0;
     private int wrong = 0;
+    private String words = "";
+    private int checksOfSentence = 1;
+
+    /** Names the sentence of the document that the checks behind it hold the program to. */
+    void sentence(String sentence) {
+        endSentence();
+        words = sentence;
+        checksOfSentence = 0;
+    }
+
+    private void endSentence() {
+        if (checksOfSentence == 0) {
+            wrong++;
+            System.out.println("'" + words + "' has no check");
+        }
+    }
 
     void same(String what, Object got, Object due) {
         checks++;
+        checksOfSentence++;
         if (!Objects.equals(got, due)) {
             wrong++;
-            System.out.println(what + ": answered " + got + ", due is " + due);
+            String of = words.isEmpty() ? "" : "'" + words + "' ";
+            System.out.println(of + what + ": answered " + got + ", due is " + due);
         }
     }
 
@@ -18,6 +36,7 @@ final class Check {
     }
 
     void finish() {
+        endSentence();
         System.out.println(checks + " checks, " + wrong + " wrong");
         if (wrong != 0 || checks == 0) {
             System.exit(1);

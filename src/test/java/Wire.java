@@ -133,6 +133,26 @@ final class Wire {
         return tlv(0x87, latin(type));
     }
 
+    /** Attributes for an ADD that have just so many bytes together (8 or more). */
+    static byte[] attributesOfSize(int size) {
+        byte[] all = new byte[0];
+        int left = size;
+        while (left > 0) {
+            // What is left over must do for another attribute, which has 8 bytes at least.
+            int one = left <= 68 ? left : Math.min(68, left - 8);
+            int inType = Math.min(30, one - 8);
+            all = join(all, attribute("x".repeat(inType), "x".repeat(one - 8 - inType)));
+            left -= one;
+        }
+        return all;
+    }
+
+    /** A message that is of the form and has a content of just so many bytes (19 or more). */
+    static byte[] messageOfSize(int size) {
+        byte[] request = longTlv(0x68, text(""), longTlv(0x30, attributesOfSize(size - 11)));
+        return longTlv(0x30, integer(1), request);
+    }
+
     static int feed(DirectorySession session, byte[] all) {
         int done = 0;
         for (int start = 0; start < all.length; start += 8) {
@@ -165,8 +185,11 @@ final class Wire {
 
     static byte[] output(DirectorySession session) {
         byte[] all = new byte[session.length()];
+        long eight = 0;
         for (int k = 0; k < all.length; k++) {
-            all[k] = (byte) (session.output(k / 8) >>> 8 * (7 - k % 8));
+            // One call for eight bytes, as an object has 512 calls alone.
+            eight = k % 8 == 0 ? session.output(k / 8) : eight;
+            all[k] = (byte) (eight >>> 8 * (7 - k % 8));
         }
         return all;
     }
@@ -174,13 +197,24 @@ final class Wire {
     static String hex(byte[] all) {
         StringBuilder text = new StringBuilder();
         for (byte b : all) {
-            text.append(String.format("%02X ", b & 0xFF));
+            text.append(text.length() == 0 ? "" : " ").append(Character.forDigit(b >> 4 & 15, 16))
+                    .append(Character.forDigit(b & 15, 16));
         }
-        return text.toString().trim();
+        return text.toString().toUpperCase();
     }
 
     static String outputHex(DirectorySession session) {
         return hex(output(session));
+    }
+
+    /** All entries as a search brings them out, their parents, and who is bound. */
+    static String everything(DirectorySession session) {
+        ask(session, search("", 2, 0, and()));
+        StringBuilder all = new StringBuilder(outputHex(session)).append(" parents");
+        for (int e = 0; e < session.entries(); e++) {
+            all.append(' ').append(session.parent(e));
+        }
+        return all.append(" bound ").append(session.bound()).toString();
     }
 
     /** The answer that is due to a request other than UNBIND. */
