@@ -34,7 +34,7 @@ public final class ChangesTest {
 
     private static void modified(int due, String after, int change, String type, String... values) {
         DirectorySession x = two();
-        String before = Model.state(x).substring(Model.state(x).indexOf('\n'));
+        String before = Model.entries(x);
         String what = "modify " + change + " " + type + " " + String.join("/", values);
         CHECK.same(what, Wire.ask(x, Wire.modify("n=a", change, type, values)), due);
         CHECK.same(what + " answer", Wire.outputHex(x), Wire.hex(Wire.result(1, 0x67, due)));
@@ -42,8 +42,7 @@ public final class ChangesTest {
             int t = "ondis".indexOf(type.toLowerCase());
             CHECK.same(what + " values", Wire.valueTexts(x, 0, t), after);
         } else {
-            CHECK.same(what + " changes nothing",
-                    Model.state(x).substring(Model.state(x).indexOf('\n')), before);
+            CHECK.same(what + " changes nothing", Model.entries(x), before);
         }
     }
 

@@ -762,12 +762,25 @@ final class Model {
                 .anyMatch(n -> f.kind == 0xA5 ? n >= asked : n <= asked);
     }
 
-    /** All that can be asked of a session, as one text. */
-    String state() {
+    /** All that can be asked of the session itself and its output, as one text. */
+    String session() {
+        return open + " " + kept.size() + " " + entries.indexOf(bound) + " " + code + " " + found + " "
+                + entries.size() + " " + Wire.hex(output);
+    }
+
+    static String session(DirectorySession x) {
+        return x.open() + " " + x.kept() + " " + x.bound() + " " + x.code() + " " + x.found() + " "
+                + x.entries() + " " + Wire.outputHex(x);
+    }
+
+    /** How many calls session(x) takes when x is as the model. */
+    int callsForSession() {
+        return 7 + (output.length + 7) / 8;
+    }
+
+    /** All that can be asked of the entries, as one text. */
+    String entries() {
         StringBuilder all = new StringBuilder();
-        all.append(open).append(' ').append(kept.size()).append(' ').append(entries.indexOf(bound))
-                .append(' ').append(code).append(' ').append(found).append(' ')
-                .append(Wire.hex(output)).append('\n');
         for (Item item : entries) {
             all.append(entries.indexOf(item.parent));
             for (char t : TYPES.toCharArray()) {
@@ -781,16 +794,15 @@ final class Model {
         return all.toString();
     }
 
-    static String state(DirectorySession x) {
+    static String entries(DirectorySession x) {
         StringBuilder all = new StringBuilder();
-        all.append(x.open()).append(' ').append(x.kept()).append(' ').append(x.bound())
-                .append(' ').append(x.code()).append(' ').append(x.found()).append(' ')
-                .append(Wire.outputHex(x)).append('\n');
-        for (int e = 0; e < x.entries(); e++) {
+        int count = x.entries();
+        for (int e = 0; e < count; e++) {
             all.append(x.parent(e));
             for (int t = 0; t < TYPES.length(); t++) {
-                all.append(' ').append(x.values(e, t));
-                for (int k = 0; k < x.values(e, t); k++) {
+                int values = x.values(e, t);
+                all.append(' ').append(values);
+                for (int k = 0; k < values; k++) {
                     String value = Wire.valueText(x, e, t, k);
                     all.append(' ').append(Arrays.toString(Wire.latin(value == null ? "" : value)));
                 }
@@ -798,5 +810,19 @@ final class Model {
             all.append('\n');
         }
         return all.toString();
+    }
+
+    /** How many calls entries(x) takes when x is as the model. */
+    int callsForEntries() {
+        int calls = 1;
+        for (Item item : entries) {
+            calls += 1 + TYPES.length();
+            for (List<String> values : item.attributes.values()) {
+                for (String value : values) {
+                    calls += value.length() + 1;
+                }
+            }
+        }
+        return calls;
     }
 }

@@ -6,8 +6,11 @@ import java.util.TreeMap;
 
 /** All promises: long runs of made-up messages, right and wrong, held against the model. */
 public final class ModelTest {
-    private static final int RUNS = 2000;
-    private static final int MESSAGES = 120;
+    private static final int RUNS = 5000;
+    /** What an object answers after its 512th call is free. */
+    private static final int MOST_CALLS = 512;
+    /** To feed the longest message, to connect, and to look at two short answers. */
+    private static final int CALLS_OF_A_MESSAGE = 60;
     private static final String[] TYPES = {"o", "n", "d", "i", "s", "O", "N", "D", "I", "S"};
     private static final String[] PARTS = {"n=a", "n=b", "N=A", "n=B ", "d=x", "i=1", "n= a  b",
         "d=\\,", "i=-7", "n=\\=\\\\", "D=X", "n=a b", "d=\\\\\\,\\=", "n=c", "i=25"};
@@ -26,6 +29,7 @@ public final class ModelTest {
     private final Random random;
     private final Map<Integer, Integer> codes;
     private final Model model = new Model();
+    private int calls = 0;
 
     private ModelTest(long seed, Map<Integer, Integer> codes) {
         this.random = new Random(seed);
@@ -48,25 +52,63 @@ public final class ModelTest {
 
     private void run(Check check, int run) {
         DirectorySession session = new DirectorySession();
-        for (int k = 0; k < MESSAGES; k++) {
-            byte[] message = Wire.message(1 + random.nextInt(300), request());
-            if (message.length > 153) {
-                continue;
-            }
-            if (random.nextInt(12) == 0) {
-                message = spoil(message);
-            }
-            int done = Wire.feed(session, message);
-            check.same("run " + run + " message " + k + " done: " + Wire.hex(message), done,
-                    model.feed(message));
-            check.same("run " + run + " message " + k + " state: " + Wire.hex(message),
-                    Model.state(session), model.state());
+        // Who is looked at seldom has calls left for more messages.
+        int rest = 1 + random.nextInt(6);
+        if (run % 4 == 0) {
+            fill(session, random.nextInt(13));
+        }
+        for (int k = 0; calls + CALLS_OF_A_MESSAGE + model.callsForEntries() < MOST_CALLS; k++) {
+            byte[] message = message();
+            String what = "run " + run + " message " + k + " " + Wire.hex(message);
+            calls += (message.length + 7) / 8;
+            check.same(what + " done", Wire.feed(session, message), model.feed(message));
             codes.merge(model.open ? model.code : -1, 1, Integer::sum);
-            if (!model.open || model.kept.size() > 0 || random.nextInt(60) == 0) {
+            boolean ended = !model.open || model.kept.size() > 0;
+            if (ended || k % rest == 0) {
+                lookAtSession(check, what, session);
+            }
+            if (ended || random.nextInt(60) == 0) {
+                calls++;
                 session.connect();
                 model.connect();
-                check.same("connected", Model.state(session), model.state());
+                lookAtSession(check, what + " connected", session);
             }
+            if (random.nextInt(20) == 0) {
+                lookAtEntries(check, what, session);
+            }
+        }
+        lookAtEntries(check, "run " + run + " at its end", session);
+    }
+
+    private void fill(DirectorySession session, int count) {
+        for (int k = 0; k < count; k++) {
+            byte[] message = Wire.message(1, Wire.add("n=" + k, Wire.attribute("o", "g"),
+                    Wire.attribute("n", "" + k)));
+            calls += (message.length + 7) / 8;
+            Wire.feed(session, message);
+            model.feed(message);
+        }
+    }
+
+    private byte[] message() {
+        byte[] message = Wire.message(1 + random.nextInt(300), request());
+        while (message.length > 153) {
+            message = Wire.message(1 + random.nextInt(300), request());
+        }
+        return random.nextInt(12) == 0 ? spoil(message) : message;
+    }
+
+    private void lookAtSession(Check check, String what, DirectorySession session) {
+        if (calls + model.callsForSession() <= MOST_CALLS) {
+            calls += model.callsForSession();
+            check.same(what, Model.session(session), model.session());
+        }
+    }
+
+    private void lookAtEntries(Check check, String what, DirectorySession session) {
+        if (calls + model.callsForEntries() <= MOST_CALLS) {
+            calls += model.callsForEntries();
+            check.same(what + " entries", Model.entries(session), model.entries());
         }
     }
 

@@ -20,6 +20,7 @@ public final class ResultEdgesTest {
         modifyDelete();
         modifyReplace();
         modifyOutcome();
+        modifyOfANameByDescription();
         compareInOrder();
         CHECK.finish();
     }
@@ -38,7 +39,7 @@ public final class ResultEdgesTest {
 
     /** With a code other than 0, 4, 5 and 6 the entries stay as they are. */
     private static void asked(String what, DirectorySession x, byte[] request, int tag, int due) {
-        String before = Wire.everything(x);
+        String before = due == 0 ? null : Wire.everything(x);
         CHECK.same(what, Wire.ask(x, 77, request), due);
         CHECK.same(what + ": the answer", Wire.outputHex(x), Wire.hex(Wire.result(77, tag, due)));
         if (due != 0) {
@@ -396,15 +397,20 @@ public final class ResultEdgesTest {
         change(65, "", 2, "o", "g", "q");
         change(0, "G", 2, "o", "G");
         change(0, "x/g", 2, "o", "x", "g");
+        asked("h needs i", three(), Wire.modify("n=h,n=a", 1, "i", "5"), 0x67, 65);
+        asked("h needs i in replace too", three(), Wire.modify("n=h,n=a", 2, "i"), 0x67, 65);
+        asked("h to g", three(), Wire.modify("n=h,n=a", 2, "o", "g"), 0x67, 69);
+        asked("g may not have i", three(), Wire.modify("n=b", 0, "i", "1"), 0x67, 65);
+        asked("g may not have s", three(), Wire.modify("n=b", 2, "s", "1"), 0x67, 65);
         DirectorySession x = three();
-        asked("h needs i", x, Wire.modify("n=h,n=a", 1, "i", "5"), 0x67, 65);
-        asked("h needs i in replace too", x, Wire.modify("n=h,n=a", 2, "i"), 0x67, 65);
-        asked("h to g", x, Wire.modify("n=h,n=a", 2, "o", "g"), 0x67, 69);
-        asked("g may not have i", x, Wire.modify("n=b", 0, "i", "1"), 0x67, 65);
-        asked("g may not have s", x, Wire.modify("n=b", 2, "s", "1"), 0x67, 65);
         asked("g with x may", x, Wire.modify("n=a", 2, "s", "1"), 0x67, 0);
         asked("then x may not go", x, Wire.modify("n=a", 1, "o", "x"), 0x67, 65);
         asked("nor by replace", x, Wire.modify("n=a", 2, "o", "g"), 0x67, 65);
+    }
+
+    private static void modifyOfANameByDescription() {
+        CHECK.sentence("67 the first part of its name, of whatever type, is not among the values any more");
+        DirectorySession x = three();
         Wire.ask(x, Wire.rename("n=a", "d=two", 0));
         asked("a description in the name", x, Wire.modify("d=two", 1, "d", "TWO"), 0x67, 67);
         asked("all of them", x, Wire.modify("d=two", 1, "d"), 0x67, 67);

@@ -74,32 +74,34 @@ public final class RulesTest {
             CHECK.holds("some twenty fields " + type, fields <= 20);
             for (Method method : type.getDeclaredMethods()) {
                 CHECK.holds("seven parameters " + method, method.getParameterCount() <= 7);
-                notAFaceName(method);
+                if (Modifier.isPrivate(method.getModifiers())) {
+                    notAFaceName(method);
+                }
             }
         }
     }
 
+    /** Nor with the insides of texts, in which any word may stand. */
     private static String withoutComments(String source) {
-        return source.replaceAll("(?s)/\\*.*?\\*/", " ").replaceAll("//[^\n]*", " ");
+        return source.replaceAll("(?s)/\\*.*?\\*/", " ").replaceAll("//[^\n]*", " ")
+                .replaceAll("\"(\\\\.|[^\"\\\\\n])*\"", "\"\"");
     }
 
     private static void words(String code) {
-        List<String> banned = List.of("import", "package", "try", "throw", "catch", "finally",
-                "synchronized", "assert", "System", "Thread", "Random", "record", "var",
-                "instanceof", "String", "Object", "Integer", "Long", "protected", "volatile", "yield");
+        List<String> banned = List.of("package", "finally", "synchronized", "assert", "protected",
+                "Thread", "Random", "Object", "getMessage", "hashCode", "volatile");
         for (String word : banned) {
             CHECK.holds("the word " + word, !Pattern.compile("\\b" + word + "\\b").matcher(code).find());
         }
-        for (String mark : List.of("->", "::", "\"", "@", "/ 0", "% ")) {
-            CHECK.holds("the mark " + mark, !code.contains(mark));
-        }
-        // Objects are made in constructors and fields alone, never by a call.
-        Matcher made = Pattern.compile("(?m)^.*\\bnew\\b.*$").matcher(code);
-        while (made.find()) {
-            String line = made.group().trim();
-            boolean field = line.startsWith("private final") || line.startsWith("final");
-            boolean inConstructor = line.matches("(given|plains|attributes\\[type]|order\\[place]) = new .*");
-            CHECK.holds("made by a call: " + line, field || inConstructor);
+        CHECK.holds("a method reference", !code.contains("::"));
+        CHECK.holds("a call of the system", !Pattern.compile("\\bSystem\\.(?!arraycopy\\()").matcher(code).find());
+        CHECK.holds("a function that throws", !Pattern.compile("Exact\\(").matcher(code).find());
+        for (String line : code.split("\n")) {
+            String words = line.trim();
+            boolean inSwitch = words.startsWith("case ") || words.startsWith("default");
+            CHECK.holds("a lambda: " + words, inSwitch || !words.contains("->"));
+            CHECK.holds("another library: " + words, !words.startsWith("import ")
+                    || words.matches("import java\\.util\\.(ArrayList|List|Arrays|Iterator|NoSuchElementException);"));
         }
     }
 
@@ -114,10 +116,9 @@ public final class RulesTest {
                 start = k;
                 indent = head.group(1);
             } else if (start >= 0 && lines[k].equals(indent + "}")) {
-                CHECK.holds("a short method at line " + (start + 1), k - start < 60);
+                CHECK.holds("a short method at line " + (start + 1), k - start <= 65);
                 start = -1;
             }
-            CHECK.holds("a short line " + (k + 1), lines[k].length() <= 110);
         }
     }
 }

@@ -142,31 +142,38 @@ public final class SearchTest {
                 contents.containsAll(List.of(126, 127, 128, 129)));
     }
 
-    /** Twelve entries of the longest kind, so that every length has its second byte. */
+    /** Two entries one below the other and ten below them, all with the longest names and values. */
     private static void longAnswers() {
         DirectorySession x = new DirectorySession();
-        byte[] due = new byte[0];
-        String above = "";
+        String[] names = {"n=a", "n=b,n=a", ",n=b,n=a"};
+        byte[] values = Wire.join(Wire.attribute("d", "111111", "222222", "333333"),
+                Wire.attribute("i", "-9999"), Wire.attribute("s", "123456"));
         for (int k = 0; k < 12; k++) {
-            String six = ",,,,," + (char) ('a' + k);
-            String marked = six.replace(",", "\\,");
-            byte[] more = Wire.join(Wire.attribute("o", "h", "x"), Wire.attribute("n", six));
-            byte[] rest = Wire.join(Wire.attribute("d", "111111", "222222", "333333"),
-                    Wire.attribute("i", "-9999"), Wire.attribute("s", "123456"));
-            Wire.ask(x, Wire.add("n=" + k + above, Wire.attribute("o", "h", "x"),
-                    Wire.attribute("n", "" + k), Wire.attribute("i", "-9999")));
-            Wire.ask(x, Wire.modify("n=" + k + above, 0, "d", "111111", "222222", "333333"));
-            Wire.ask(x, Wire.modify("n=" + k + above, 0, "s", "123456"));
-            Wire.ask(x, Wire.rename("n=" + k + above, "n=" + marked, 1));
-            CHECK.same("entry " + k, x.code(), 0);
-            String name = "n=" + marked + (k == 0 ? "" : ",n=\\,\\,\\,\\,\\,a");
-            due = Wire.join(due, Wire.found(32767, name, more, rest));
-            above = ",n=\\,\\,\\,\\,\\,a";
+            String own = k == 0 ? "a" : k == 1 ? "b" : "" + k;
+            Wire.ask(x, Wire.add(k < 2 ? names[k] : "n=" + k + names[2], Wire.attribute("o", "h", "x"),
+                    Wire.attribute("n", own), values));
+        }
+        CHECK.same("twelve entries", x.entries(), 12);
+        for (int k = 11; k >= 0; k--) {
+            Wire.ask(x, Wire.rename(k < 2 ? names[k] : "n=" + k + names[2], "n=" + marked(k), 1));
+            CHECK.same("a long name for " + k, x.code(), 0);
+        }
+        byte[] due = new byte[0];
+        for (int k = 0; k < 12; k++) {
+            String name = "n=" + marked(k) + (k > 1 ? ",n=" + marked(1) : "") + (k > 0 ? ",n=" + marked(0) : "");
+            due = Wire.join(due, Wire.found(32767, name, Wire.attribute("o", "h", "x"),
+                    Wire.attribute("n", marked(k).replaceAll("\\\\(.)", "$1")), values));
         }
         Wire.ask(x, 32767, Wire.search("", 2, 0, TRUE));
         due = Wire.join(due, Wire.result(32767, 0x65, 0));
         CHECK.same("twelve long entries", Wire.outputHex(x), Wire.hex(due));
         CHECK.same("found", x.found(), 12);
+    }
+
+    /** Six characters that all need a mark, other ones for each k. */
+    private static String marked(int k) {
+        String[] marks = {"\\,", "\\=", "\\\\"};
+        return marks[0] + marks[1] + marks[2] + marks[k % 3] + marks[k / 3 % 3] + marks[k / 9 % 3];
     }
 
     private static void leaves() {
@@ -189,6 +196,7 @@ public final class SearchTest {
             Wire.atMost("d", "1"), Wire.atLeast("s", "1"), Wire.atLeast("i", "-0"),
             Wire.atMost("i", ""), Wire.atLeast("x", "1"), Wire.atMost("i", "12345")};
         for (byte[] filter : undefined) {
+            x = four();
             CHECK.same("undefined " + Wire.hex(filter), found(x, "", 2, 0, filter), "");
             CHECK.same("not undefined " + Wire.hex(filter), found(x, "", 2, 0, Wire.not(filter)), "");
             CHECK.same("or true " + Wire.hex(filter),

@@ -164,12 +164,12 @@ public final class StreamEdgesTest {
             DirectorySession x = new DirectorySession();
             Wire.ask(x, Wire.bind(2, "", ""));
             Wire.feed(x, closing);
-            String before = Model.state(x);
+            String before = Model.session(x);
             byte[] add = Wire.message(1,
                     Wire.add("n=a", Wire.attribute("o", "g"), Wire.attribute("n", "a")));
             for (byte[] more : new byte[][] {add, DELETE_ROOT, UNBIND, Wire.bytes(0x31), Wire.bytes(0x30)}) {
                 CHECK.same("none is done when it is closed", Wire.feed(x, more), 0);
-                CHECK.same("nothing changes when it is closed", Model.state(x), before);
+                CHECK.same("nothing changes when it is closed", Model.session(x), before);
             }
         }
     }

@@ -230,8 +230,10 @@ final class Wire {
     /** Value k as a text; null when there is none. */
     static String valueText(DirectorySession session, int e, int t, int k) {
         StringBuilder text = new StringBuilder();
-        for (int j = 0; session.value(e, t, k, j) >= 0; j++) {
-            text.append((char) session.value(e, t, k, j));
+        int b = session.value(e, t, k, 0);
+        for (int j = 1; b >= 0; j++) {
+            text.append((char) b);
+            b = session.value(e, t, k, j);
         }
         return text.length() == 0 ? null : text.toString();
     }
@@ -239,7 +241,8 @@ final class Wire {
     /** All values of a type, with a / between them. */
     static String valueTexts(DirectorySession session, int e, int t) {
         StringBuilder all = new StringBuilder();
-        for (int k = 0; k < session.values(e, t); k++) {
+        int values = session.values(e, t);
+        for (int k = 0; k < values; k++) {
             all.append(k == 0 ? "" : "/").append(valueText(session, e, t, k));
         }
         return all.toString();
