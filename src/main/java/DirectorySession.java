@@ -1271,8 +1271,8 @@ public final class DirectorySession {
         private static final int[] NOTICE = {
             0x30, 0x0C, 0x02, 0x01, 0x00, 0x78, 0x07, 0x0A, 0x01, 0x02, 0x04, 0x00, 0x04, 0x00
         };
-        /** The longest entry takes 149 bytes, and the result behind the entries 16. */
-        private static final int ROOM = 150 * MOST_ENTRIES + 16;
+        /** The longest entry takes 146 bytes, and the result behind the entries 15. */
+        private static final int ROOM = 146 * MOST_ENTRIES + 15;
 
         private final int[] bytes = new int[ROOM];
         int size = 0;

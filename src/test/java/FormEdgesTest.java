@@ -20,6 +20,7 @@ public final class FormEdgesTest {
         intHasASign();
         idFrom1To32767();
         textOfAtMost30();
+        aLongTextThatLooksLikeParts();
         choiceHasOneByte();
         flagHasOneByte();
         valuesOfAtMost8();
@@ -229,6 +230,26 @@ public final class FormEdgesTest {
         });
     }
 
+    private static void aLongTextThatLooksLikeParts() {
+        CHECK.sentence("TEXT with at most 30 bytes: what a longer one holds is never read as the parts behind it");
+        byte[] tail = Wire.join(Wire.text("x".repeat(26)), Wire.flag(1));
+        CHECK.same("bytes in the text", tail.length, 31);
+        malformed("RENAME", Wire.tlv(0x6C, Wire.tlv(4, tail)));
+        malformed("RENAME's part", Wire.tlv(0x6C, NAME, Wire.tlv(4, tail)));
+        byte[] secret = Wire.tlv(0x80, Wire.latin("x".repeat(29)));
+        malformed("BIND", Wire.tlv(0x60, Wire.integer(3), Wire.tlv(4, secret)));
+        byte[] pair = Wire.tlv(0x30, TYPE, Wire.text("x".repeat(24)));
+        malformed("COMPARE", Wire.tlv(0x6E, Wire.tlv(4, pair)));
+        malformed("COMPARE's type", Wire.tlv(0x6E, NAME, Wire.tlv(0x30, Wire.tlv(4, Wire.text("x".repeat(29))))));
+        byte[] list = Wire.tlv(0x30, Wire.attributesOfSize(29));
+        malformed("ADD", Wire.tlv(0x68, Wire.tlv(4, list)));
+        byte[] modify = Wire.join(Wire.choice(0), TYPE, Wire.texts("x".repeat(21)));
+        malformed("MODIFY", Wire.tlv(0x66, Wire.tlv(4, modify)));
+        byte[] search = Wire.join(Wire.choice(0), Wire.integer(0), Wire.present("x".repeat(23)));
+        malformed("SEARCH", Wire.tlv(0x63, Wire.tlv(4, search)));
+        malformed("EQUAL", Wire.search("", 2, 0, Wire.tlv(0xA3, Wire.tlv(4, Wire.text("x".repeat(29))))));
+    }
+
     private static void choiceHasOneByte() {
         CHECK.sentence("CHOICE is a TLV 0x0A with one byte");
         Function<byte[], byte[]> modify = c -> Wire.tlv(0x66, NAME, c, TYPE, VALUES);
@@ -328,6 +349,13 @@ public final class FormEdgesTest {
             formed("ADD with " + count, request, count == 0 ? 68 : 17);
             all = Wire.join(all, Wire.attribute("", ""));
         }
+        String[] eight = {"", "", "", "", "", "", "", ""};
+        byte[] most = EMPTY;
+        for (int count = 0; count < 6; count++) {
+            most = Wire.join(most, Wire.attribute("", eight));
+        }
+        formed("ADD with as many values as there is room for",
+                Wire.tlv(0x68, Wire.text(""), Wire.tlv(0x30, most)), 17);
         onlyThese("ADD", 0x68, NAME, Wire.tlv(0x30, Wire.attribute("n", "a")));
         malformed("a TLV 0x31 in it", Wire.tlv(0x68, NAME, Wire.tlv(0x30, VALUES)));
         malformed("a good one and a text",

@@ -14,6 +14,7 @@ public final class NameEdgesTest {
         sameNames();
         atMost12Entries();
         orderOfEntries();
+        firstPartAmongTheValues();
         parents();
         classesOfTheSchema();
         typesOfTheSchema();
@@ -175,6 +176,23 @@ public final class NameEdgesTest {
             }
             CHECK.same("the order when " + gone + " goes and comes", names.toString(), due + "0");
         }
+    }
+
+    private static void firstPartAmongTheValues() {
+        CHECK.sentence("An entry has a name, whose first part is one of its attributes' values");
+        byte[] all = Wire.join(Wire.attribute("o", "g", "x"), Wire.attribute("n", " A"),
+                Wire.attribute("d", "1", "B  b", "c"), Wire.attribute("i", "7"), Wire.attribute("s", "z"));
+        for (String right : new String[] {"n=a", "N=A ", "d=1", "d=b b", "D=C", "i=7"}) {
+            CHECK.same("add " + right, Wire.ask(new DirectorySession(), Wire.add(right, all)), 0);
+        }
+        for (String wrong : new String[] {"n=1", "n=b", "d=a", "d=bb", "d=7", "i=1", "i=-7", "n=z", "i=70"}) {
+            CHECK.same("add " + wrong, Wire.ask(new DirectorySession(), Wire.add(wrong, all)), 64);
+        }
+        DirectorySession x = new DirectorySession();
+        Wire.ask(x, Wire.add("n=a", all));
+        CHECK.same("the first part, not another", Wire.ask(x, Wire.add("d=1,n=a", all)), 0);
+        CHECK.same("a value of the second part alone", Wire.ask(x, Wire.add("n=b,n=a", all)), 64);
+        CHECK.same("without the type", Wire.ask(x, Wire.add("i=7,n=a", G, N)), 64);
     }
 
     private static void parents() {

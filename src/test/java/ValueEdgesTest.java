@@ -195,6 +195,8 @@ public final class ValueEdgesTest {
             areEqual(type, "a b", "ab", false);
             areEqual(type, "a b c", "a  b c", true);
             areEqual(type, "a b c", "ab c", false);
+            areEqual(type, "a bc", "a b c", false);
+            areEqual(type, "a  bc", "A BC", true);
             areEqual(type, "a", "aa", false);
             areEqual(type, "ab", "ba", false);
             areEqual(type, "a_b", "a b", false);
