@@ -3,7 +3,8 @@ import java.lang.management.ManagementFactory;
 /** That the dearest runs of calls make little: all calls of a run live in one room. */
 public final class RoomTest {
     private static final Check CHECK = new Check();
-    private static final int MOST_CALLS = 512;
+    /** Two of the 512 calls are left to look at the object at the end. */
+    private static final int MOST_CALLS = 510;
     /** So few bytes hold neither 600,000 objects, of 16 bytes at least, nor 7.3 million elements. */
     private static final long MOST_BYTES = 7_000_000;
 
